@@ -1542,9 +1542,12 @@ public final class ShotListPlanner {
         private int leastRest(int behind, int latest) {
             int least = FAR;
             for (int next = 0; next < size; next++) {
-                if (!holds(behind, next)) {
-                    least = Math.min(least, step[latest * most + next]
-                            + rest[(behind | 1 << next) * most + next]);
+                int with = behind | 1 << next;
+                if (with != behind) {
+                    int whole = step[latest * most + next] + rest[with * most + next];
+                    if (whole < least) {
+                        least = whole;
+                    }
                 }
             }
             return least;

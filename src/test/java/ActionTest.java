@@ -256,6 +256,8 @@ final class ActionTest {
         Checks.answers("shot(4, 2) behind mend()", 10, () -> x.shot(4, 2));
         Checks.answers("mend() behind mend()", -2, x::mend);
         Checks.answers("undo() behind it", 0, x::undo);
+        ShotListPlanner first = Boards.loaded(Boards.PAIR);
+        succeeds("mend() with the first shot", first, 1, first::mend, 90, () -> first.shot(0, 2));
         ShotListPlanner y = Boards.loaded(Boards.NO_SHOTS);
         refuses("mend() without shots", y, -2, y::mend);
         ShotListPlanner z = Boards.loaded("limits 0 0 0; scene 0; actor 0 0 0; actor 1 0 10;"

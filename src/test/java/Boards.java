@@ -11,7 +11,7 @@ final class Boards {
             + "shot 40 10 0 2 8;"
             + "shot 5 40 2 0 9;";
 
-    /** The first board of the given tests: two actors, three shots, an axis and an eyeline fault. */
+    /** The first board of the given tests: an axis and an eyeline fault. */
     static final String PAIR = "limits 10 200 300;"
             + "scene 1; actor 0 50 50; actor 1 100 50;"
             + "shot 75 10 0 1 5; shot 75 90 1 0 5; shot 80 10 0 none 4;";
@@ -57,7 +57,7 @@ final class Boards {
         return plan.toString();
     }
 
-    /** All that can be asked about the board of a planner, but for how many actions can be undone. */
+    /** The whole board of a planner, but for how many actions can be undone. */
     static String stateOf(ShotListPlanner planner) {
         StringBuilder state = new StringBuilder();
         for (int what = 0; what <= 5; what++) {

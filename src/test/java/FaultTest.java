@@ -128,9 +128,10 @@ final class FaultTest {
     private static void straightViews() {
         ShotListPlanner planner = Boards.loaded("limits 0 0 0; scene 0; actor 0 50 10;"
                 + "actor 1 10 50; actor 2 10 30; actor 3 30 10; shot 10 10 0 none 1;"
-                + "shot 10 10 1 none 1;");
+                + "shot 10 10 1 none 1; shot 90 10 3 none 1;");
         Checks.answers("fault(0, 2) along x", 3, () -> planner.fault(0, 2));
         Checks.answers("fault(1, 2) along y", 2, () -> planner.fault(1, 2));
+        Checks.answers("fault(2, 2) against x", 0, () -> planner.fault(2, 2));
     }
 
     private static void faultsWith() {

@@ -869,7 +869,8 @@ public final class Model {
         }
         String[] words = {"axis", "eyeline", "jump", "blocked"};
         for (Fault fault : state.faults()) {
-            lines.append(String.format("shot %d %s %d\n", fault.shot, words[fault.kind], fault.about));
+            String word = words[fault.kind];
+            lines.append(String.format("shot %d %s %d\n", fault.shot, word, fault.about));
         }
         plan = lines.toString();
         return plan.length();

@@ -15,6 +15,7 @@ final class OrderTest {
     }
 
     static void run() {
+        freshBoards();
         ShotListPlanner planner = Boards.loaded(Boards.TWO_SCENES);
         changes(planner);
         costs(planner);
@@ -24,6 +25,18 @@ final class OrderTest {
         keptOrder();
         bestOfAllOrders();
         twelveSetups();
+    }
+
+    /** Each question must answer as the first one behind load(), too. */
+    private static void freshBoards() {
+        Checks.answers("plainCost() at once", 31,
+                () -> Boards.loaded(Boards.TWO_SCENES).plainCost());
+        Checks.answers("bestCost() at once", 27, () -> Boards.loaded(Boards.TWO_SCENES).bestCost());
+        Checks.answers("change(0, 3) at once", 21,
+                () -> Boards.loaded(Boards.TWO_SCENES).change(0, 3));
+        Checks.answers("ordered(0) at once", 1, () -> Boards.loaded(Boards.TWO_SCENES).ordered(0));
+        Checks.answers("days(17) at once", 3, () -> Boards.loaded(Boards.TWO_SCENES).days(17));
+        Checks.answers("stay(0) at once", 23.0 / 16.0, () -> Boards.loaded(GAP).stay(0));
     }
 
     private static void changes(ShotListPlanner planner) {
@@ -83,8 +96,27 @@ final class OrderTest {
         Checks.answers("stay(0) of a gap", 23.0 / 16.0, () -> gap.stay(0));
         Checks.answers("stay(1) of a gap", 1.0, () -> gap.stay(1));
         Checks.answers("stay(2) of a gap", 0.0, () -> gap.stay(2));
+        staysOverGaps();
         gap.setLength(1, 10);
         Checks.answers("stay(0) of a longer gap", 26.0 / 16.0, () -> gap.stay(0));
+    }
+
+    /** In the best order the actors are 0, 1, 1, 2, 0 and 3. */
+    private static void staysOverGaps() {
+        ShotListPlanner planner = Boards.loaded("limits 0 0 0;"
+                + "scene 0; actor 1 10 10; actor 0 10 30; shot 20 10 1 none 1; shot 20 30 0 none 2;"
+                + "scene 1; actor 1 10 10; actor 2 10 30; shot 20 10 1 none 4; shot 20 30 2 none 8;"
+                + "scene 2; actor 0 10 10; actor 3 10 30; shot 20 10 0 none 16;"
+                + "shot 20 30 3 none 32;");
+        isOrder(planner, "gaps", 1, 0, 2, 3, 4, 5);
+        Checks.answers("stay(0) over gaps", 31.0 / 18.0, () -> planner.stay(0));
+        Checks.answers("stay(1) over gaps", 1.0, () -> planner.stay(1));
+        Checks.answers("stay(2) over gaps", 1.0, () -> planner.stay(2));
+        planner.setCast(5, 0, -1);
+        planner.moveActor(2, 0, 10, 31);
+        Checks.answers("stay(0) with a third setup", 63.0 / 50.0, () -> planner.stay(0));
+        planner.setLength(1, 1);
+        Checks.answers("stay(0) with a short first setup", 62.0 / 49.0, () -> planner.stay(0));
     }
 
     private static void withoutShots() {

@@ -10,6 +10,7 @@ final class SetupTest {
         groups(planner);
         properties(planner);
         firstShotCounts();
+        actorsOfAllShots();
         joinable(planner);
         refusedJoins();
         leastReach();
@@ -63,6 +64,13 @@ final class SetupTest {
         Checks.answers("setups() behind drop(0)", 2, planner::setups);
         Checks.answers("setup(0, 1) behind drop(0)", 15, () -> planner.setup(0, 1));
         Checks.answers("setup(1, 4) behind drop(0)", 1, () -> planner.setup(1, 4));
+    }
+
+    private static void actorsOfAllShots() {
+        ShotListPlanner planner = Boards.loaded("limits 0 2000 0; scene 0; actor 0 0 0;"
+                + "actor 1 0 20; actor 5 90 90; shot 10 10 0 none 30; shot 10 10 1 none 40;");
+        Checks.answers("setup(0, 2) of two shots", 3, () -> planner.setup(0, 2));
+        Checks.answers("setup(0, 3) of two shots", 70, () -> planner.setup(0, 3));
     }
 
     private static void joinable(ShotListPlanner planner) {

@@ -54,6 +54,11 @@ final class SightTest {
         planner.setCast(0, 1, 0);
         Checks.answers("side(0) with the cast exchanged", -1, () -> planner.side(0));
         Checks.answers("look(0) with the cast exchanged", 1, () -> planner.look(0));
+        planner.moveActor(0, 0, 0, 0);
+        planner.moveActor(0, 1, 1, 0);
+        planner.moveCamera(0, 0, 1);
+        Checks.answers("side(0) with a cross product of 1", 1, () -> planner.side(0));
+        Checks.answers("look(0) with a cross product of -1", -1, () -> planner.look(0));
         planner.setCast(0, 1, -1);
         Checks.answers("side(0) without a partner", 0, () -> planner.side(0));
         Checks.answers("look(0) without a partner", 0, () -> planner.look(0));

@@ -121,7 +121,26 @@ final class TextTest {
         right(0, "limits 0 0 0; scene 0; actor 0 1 1; actor 1 1 1; actor 2 1 1; actor 3 1 1;"
                 + "actor 4 1 1; actor 5 1 1;");
         right(1, SCENE + "shot 5 5 2 1 1;");
+        right(0, START + "scene 0; actor 0 1 1;" + " ".repeat(766));
+        right(0, START + " ".repeat(766) + "scene 0; actor 0 1 1;");
+        wrong(1, START + "scene 0; actor 0 1 1" + " ".repeat(767) + "^");
+        wrong(1, START + "scene 0; actor 0 1 1; " + "^" + "s".repeat(765));
+        wrong(1, START + "scene 0; actor 0 1 " + "^" + "1".repeat(768));
+        cutOff();
         replacing();
+    }
+
+    /** What was truncated stands no longer behind the last token. */
+    private static void cutOff() {
+        String text = "limits 12 3 4;";
+        for (int length = 0; length < text.length(); length++) {
+            ShotListPlanner planner = new ShotListPlanner();
+            Boards.put(planner, text);
+            planner.truncate(length);
+            Checks.answers("load() of the first " + length + " bytes", -11, planner::load);
+            Checks.answers("errorPosition() of the first " + length + " bytes",
+                    length > 0 && length < 6 ? 0 : length, planner::errorPosition);
+        }
     }
 
     private static void right(int shots, String text) {
@@ -164,7 +183,9 @@ final class TextTest {
     private static void tokensThatCannotStand() {
         String[] texts = {"^", "  \n^", "^scene 0;", "^;", "^7", "^limit 1 2 3;", "^limitss 1 2 3;",
             "^Limits 1 2 3;", "limits^", "limits ^; 1 2 3;", "limits 1 2 ^;", "limits 1 2 3^",
-            "limits 1 2 3 ^4;", "limits 1 2 3 ^scene 0;", START + "^", START + " \n ^",
+            "limits 1 2 3 ^4;", "limits 1 2 3 ^scene 0;", "limits 1 2 3^:", "limits 1 2 3^,;",
+            "^simits 1 2 3;", START + "^ccene 0;", START + "^scenez 0;", START + "^scen 0;",
+            START + "^", START + " \n ^",
             START + "^;", START + "^limits 1 2 3;", START + "^actor 0 1 1;", START + "^shot 1",
             START + "^none", START + "scene^", START + "scene ^;", START + "scene 0 ^1;",
             START + "scene 0;^", START + "scene 0; ^scene 0;", START + "scene 0; ^shot 1 1 0",
