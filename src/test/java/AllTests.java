@@ -15,6 +15,13 @@ final class AllTests {
         SetupTest.run();
         OrderTest.run();
         PlanTest.run();
+        StageEdgesTest.run();
+        ShotEdgesTest.run();
+        FaultEdgesTest.run();
+        SetupEdgesTest.run();
+        TextEdgesTest.run();
+        MethodEdgesTest.run();
+        PromiseEdgesTest.run();
         RandomRunsTest.run(RANDOM_RUNS);
         Checks.end();
     }

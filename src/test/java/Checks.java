@@ -1,5 +1,6 @@
 /** Counts what is not as it is due, and tells it. */
 final class Checks {
+    private static final int LONG = 200;
     private static int made = 0;
     private static int wrong = 0;
 
@@ -28,8 +29,25 @@ final class Checks {
         made++;
         if (!due.equals(got)) {
             wrong++;
-            System.out.println(what + " answered " + got + ", due is " + due);
+            System.out.println(what + " answered " + part(got, due) + ", due is "
+                    + part(due, got));
         }
+    }
+
+    /** A text, or of a long one the part where it begins to differ from the other one. */
+    private static String part(Object text, Object other) {
+        String whole = String.valueOf(text);
+        if (whole.length() < LONG) {
+            return whole;
+        }
+        String second = String.valueOf(other);
+        int same = 0;
+        while (same < Math.min(whole.length(), second.length())
+                && whole.charAt(same) == second.charAt(same)) {
+            same++;
+        }
+        return "[from " + same + " on] "
+                + whole.substring(same, Math.min(whole.length(), same + LONG));
     }
 
     /** Ends the program, with 1 if anything was wrong. */

@@ -75,6 +75,7 @@ final class LanguageTest {
         String text = Files.readString(Path.of(source));
         library(text);
         fewClassesAndFields();
+        shortMethods(text);
     }
 
     private static void face() {
@@ -169,5 +170,30 @@ final class LanguageTest {
     private static long fields(Class<?> of) {
         return Arrays.stream(of.getDeclaredFields())
                 .filter(field -> !Modifier.isStatic(field.getModifiers())).count();
+    }
+
+    private static void shortMethods(String text) {
+        String start = "";
+        int lines = 0;
+        for (String line : text.split("\n")) {
+            lines++;
+            if (line.matches(" {4}(| {4})[a-z].*[^;,]")) {
+                start = line.trim();
+                lines = 1;
+            }
+            if (line.matches(" {4}(| {4})\\}")) {
+                Checks.same("short: " + start, true, lines <= 60 || start.contains("class "));
+            }
+        }
+        for (Class<?> inner : ShotListPlanner.class.getDeclaredClasses()) {
+            fewParameters(inner);
+        }
+        fewParameters(ShotListPlanner.class);
+    }
+
+    private static void fewParameters(Class<?> of) {
+        for (Method method : of.getDeclaredMethods()) {
+            Checks.same("few parameters of " + method, true, method.getParameterCount() <= 7);
+        }
     }
 }

@@ -143,7 +143,7 @@ final class TextTest {
         }
     }
 
-    private static void right(int shots, String text) {
+    static void right(int shots, String text) {
         ShotListPlanner planner = new ShotListPlanner();
         Boards.put(planner, text);
         Checks.answers("load() of " + text, shots, planner::load);
@@ -172,7 +172,7 @@ final class TextTest {
     }
 
     /** In a wrong text the sign ^ stands before the place of the error, and is left out. */
-    private static void wrong(int code, String marked) {
+    static void wrong(int code, String marked) {
         String text = marked.replace("^", "");
         ShotListPlanner planner = new ShotListPlanner();
         Boards.put(planner, text);
