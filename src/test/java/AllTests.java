@@ -7,6 +7,7 @@ final class AllTests {
 
     public static void main(String[] args) throws Exception {
         LanguageTest.run(args[0]);
+        ReadmeTest.run();
         TextTest.run();
         BoardTest.run();
         ActionTest.run();
